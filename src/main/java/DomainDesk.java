@@ -23,10 +23,10 @@ public final class DomainDesk {
     private final ArrayList<Constraint> constraints;
     /** Row n has the pruned domains of level n; a row that has FAILED is all zeros. */
     private final int[][] levels;
-    /** Row n has the domains of a search that has fixed the variables before n. */
-    private final int[][] trials;
     /** Element a has the values b of the pairs a, b, as bits. */
     private final int[] draft;
+    /** The values of a search, of the variables that it has fixed. */
+    private final int[] chosen;
     /** The solutions one behind the other, as far as solutionCount says. */
     private final int[] solutionValues;
     private int solutionCount;
@@ -36,8 +36,8 @@ public final class DomainDesk {
     public DomainDesk() {
         constraints = new ArrayList<Constraint>();
         levels = new int[MOST_LEVELS + 1][MOST_VARIABLES];
-        trials = new int[MOST_VARIABLES + 1][MOST_VARIABLES];
         draft = new int[VALUES];
+        chosen = new int[MOST_VARIABLES];
         solutionValues = new int[MOST_SOLUTIONS * MOST_VARIABLES];
         solutionCount = NOT_COUNTED;
         variableCount = 0;
@@ -116,7 +116,7 @@ public final class DomainDesk {
         requireState(!hasFailed());
         requireRoom(level < MOST_LEVELS);
         int[] row = levels[level + 1];
-        copyDomains(levels[level], row);
+        System.arraycopy(levels[level], 0, row, 0, MOST_VARIABLES);
         row[x] &= is ? bit(value) : ~bit(value);
         level++;
         domainsHaveChanged();
@@ -144,8 +144,7 @@ public final class DomainDesk {
     public int solutions() {
         if (solutionCount == NOT_COUNTED) {
             solutionCount = 0;
-            copyDomains(levels[level], trials[0]);
-            collectSolutions(0);
+            search(0, true);
         }
         return solutionCount;
     }
@@ -160,7 +159,7 @@ public final class DomainDesk {
         requireVariable(x);
         for (int step = 0; step < VALUES; step++) {
             int candidate = most ? VALUES - 1 - step : step;
-            if (isSolvableWith(x, candidate)) {
+            if (hasBit(levels[level][x], candidate) && isSolvableWith(x, candidate)) {
                 return candidate;
             }
         }
@@ -240,10 +239,6 @@ public final class DomainDesk {
             count += Integer.bitCount(row[i]);
         }
         return count;
-    }
-
-    private static void copyDomains(int[] from, int[] to) {
-        System.arraycopy(from, 0, to, 0, MOST_VARIABLES);
     }
 
     private static int[] partnersByRule(int kind, int c) {
@@ -339,66 +334,53 @@ public final class DomainDesk {
         return true;
     }
 
-    private void collectSolutions(int depth) {
-        if (depth >= variableCount) {
-            keepSolution(trials[variableCount]);
-            return;
-        }
-        for (int v = 0; v < VALUES && solutionCount < MOST_SOLUTIONS; v++) {
-            collectSolutionsWith(depth, v);
-        }
-    }
-
-    private void collectSolutionsWith(int x, int v) {
-        if (tryValue(x, v)) {
-            collectSolutions(x + 1);
-        }
-    }
-
-    private void keepSolution(int[] row) {
-        for (int x = 0; x < variableCount; x++) {
-            // A full trial has one value in each domain.
-            solutionValues[solutionCount * MOST_VARIABLES + x] = Integer.numberOfTrailingZeros(row[x]);
-        }
-        solutionCount++;
-    }
-
     private boolean isSolvableWith(int x, int candidate) {
-        int[] row = trials[0];
-        copyDomains(levels[level], row);
-        row[x] &= bit(candidate);
-        return prune(row, bit(x)) && isSolvable(0);
+        chosen[x] = candidate;
+        return search(bit(x), false);
     }
 
-    private boolean isSolvable(int depth) {
-        if (depth >= variableCount) {
-            return true;
+    /**
+     * Goes on where some variables (fixed, as bits) have values: whether there is no need to look
+     * any further, as one solution is enough if they are not to be kept. It goes no deeper than
+     * there are variables, as each step fixes one more.
+     */
+    private boolean search(int fixed, boolean keeping) {
+        int x = Integer.numberOfTrailingZeros(~fixed);
+        if (x < variableCount) {
+            return tryValues(x, fixed, keeping);
         }
+        return !keeping || keepSolution();
+    }
+
+    private boolean tryValues(int x, int fixed, boolean keeping) {
+        int fitting = fittingValues(x, fixed);
         for (int v = 0; v < VALUES; v++) {
-            if (isSolvableNext(depth, v)) {
-                return true;
+            if (hasBit(fitting, v)) {
+                chosen[x] = v;
+                if (search(fixed | bit(x), keeping)) {
+                    return true;
+                }
             }
         }
         return false;
     }
 
-    private boolean isSolvableNext(int x, int v) {
-        return tryValue(x, v) && isSolvable(x + 1);
+    private int fittingValues(int x, int fixed) {
+        int fitting = levels[level][x];
+        for (int i = 0; i < constraints.size() && fitting != 0; i++) {
+            Constraint constraint = constraints.get(i);
+            if (hasBit(constraint.members, x)) {
+                fitting &= constraint.valuesFor(x, fixed, chosen);
+            }
+        }
+        return fitting;
     }
 
-    /**
-     * Makes the next trial, with one more variable fixed: whether it has not failed. When all are
-     * fixed and nothing has failed, every constraint supports the only values left, so it holds.
-     */
-    private boolean tryValue(int x, int v) {
-        int[] row = trials[x];
-        if (!hasBit(row[x], v)) {
-            return false;
-        }
-        int[] next = trials[x + 1];
-        copyDomains(row, next);
-        next[x] = bit(v);
-        return next[x] == row[x] || prune(next, bit(x));
+    /** Whether there are as many now as are looked for. */
+    private boolean keepSolution() {
+        System.arraycopy(chosen, 0, solutionValues, solutionCount * MOST_VARIABLES, variableCount);
+        solutionCount++;
+        return solutionCount >= MOST_SOLUTIONS;
     }
 
     private abstract static class Constraint {
@@ -414,12 +396,22 @@ public final class DomainDesk {
 
         abstract boolean alwaysHolds(int[] domains);
 
+        /**
+         * The values, as bits, that a member can have beside the fixed variables' chosen ones. Only
+         * when all other members are fixed must this be exact; before, it may be too many.
+         */
+        abstract int valuesFor(int member, int fixed, int[] chosen);
+
+        boolean isLastFree(int member, int fixed) {
+            return (members & ~fixed) == bit(member);
+        }
+
         static int keepOnly(int[] domains, int x, int kept) {
             if (domains[x] == kept) {
                 return 0;
             }
             domains[x] = kept;
-            return 1 << x;
+            return bit(x);
         }
     }
 
@@ -428,12 +420,27 @@ public final class DomainDesk {
         private final int x;
         private final int y;
         private final int[] partners;
+        /** The same the other way: which values of x go with each value of y. */
+        private final int[] partnersOfY;
 
         Relation(int x, int y, int[] partners) {
             super(bit(x) | bit(y));
             this.x = x;
             this.y = y;
             this.partners = partners;
+            this.partnersOfY = turn(partners);
+        }
+
+        private static int[] turn(int[] partners) {
+            int[] turned = new int[VALUES];
+            for (int a = 0; a < VALUES; a++) {
+                for (int b = 0; b < VALUES; b++) {
+                    if (hasBit(partners[a], b)) {
+                        turned[b] |= bit(a);
+                    }
+                }
+            }
+            return turned;
         }
 
         @Override
@@ -459,6 +466,14 @@ public final class DomainDesk {
             }
             return true;
         }
+
+        @Override
+        int valuesFor(int member, int fixed, int[] chosen) {
+            if (!isLastFree(member, fixed)) {
+                return ALL_VALUES;
+            }
+            return member == y ? partners[chosen[x]] : partnersOfY[chosen[y]];
+        }
     }
 
     /** All constraints of three variables: z is what comes out of x and y. */
@@ -468,6 +483,8 @@ public final class DomainDesk {
         private final int z;
         /** Of each a and b the result, as a bit; no bit, if it is greater than any value. */
         private final int[] results;
+        /** Of each a and result the values b, as bits; all kinds are the same with a and b swapped. */
+        private final int[] operands;
 
         Operation(int x, int y, int z, int[] results) {
             super(bit(x) | bit(y) | bit(z));
@@ -475,6 +492,20 @@ public final class DomainDesk {
             this.y = y;
             this.z = z;
             this.results = results;
+            this.operands = operandsOf(results);
+        }
+
+        private static int[] operandsOf(int[] results) {
+            int[] operands = new int[VALUES * VALUES];
+            for (int a = 0; a < VALUES; a++) {
+                for (int b = 0; b < VALUES; b++) {
+                    int result = results[a * VALUES + b];
+                    if (result != 0) {
+                        operands[a * VALUES + Integer.numberOfTrailingZeros(result)] |= bit(b);
+                    }
+                }
+            }
+            return operands;
         }
 
         @Override
@@ -508,6 +539,18 @@ public final class DomainDesk {
             }
             return true;
         }
+
+        @Override
+        int valuesFor(int member, int fixed, int[] chosen) {
+            if (!isLastFree(member, fixed)) {
+                return ALL_VALUES;
+            }
+            if (member == z) {
+                return results[chosen[x] * VALUES + chosen[y]];
+            }
+            int other = member == x ? y : x;
+            return operands[chosen[other] * VALUES + chosen[z]];
+        }
     }
 
     private static final class AllDifferent extends Constraint {
@@ -524,16 +567,10 @@ public final class DomainDesk {
         int narrow(int[] domains) {
             int changed = 0;
             for (int some = 1; some <= members; some++) {
-                if ((some & ~members) != 0) {
-                    continue;
-                }
-                int used = valuesOf(some, domains);
-                if (Integer.bitCount(used) > Integer.bitCount(some)) {
-                    continue;
-                }
-                for (int x = 0; x < MOST_VARIABLES; x++) {
-                    if (hasBit(members & ~some, x)) {
-                        changed |= keepOnly(domains, x, domains[x] & ~used);
+                if ((some & ~members) == 0) {
+                    int used = valuesOf(some, domains);
+                    if (Integer.bitCount(used) <= Integer.bitCount(some)) {
+                        changed |= takeFrom(members & ~some, used, domains);
                     }
                 }
             }
@@ -554,14 +591,35 @@ public final class DomainDesk {
             return true;
         }
 
+        @Override
+        int valuesFor(int member, int fixed, int[] chosen) {
+            int free = ALL_VALUES;
+            for (int x = 0; x < MOST_VARIABLES; x++) {
+                if (hasBit(members & fixed, x)) {
+                    free &= ~bit(chosen[x]);
+                }
+            }
+            return free;
+        }
+
         private static int valuesOf(int some, int[] domains) {
             int used = 0;
             for (int x = 0; x < MOST_VARIABLES; x++) {
-                if ((some >> x & 1) != 0) {
+                if (hasBit(some, x)) {
                     used |= domains[x];
                 }
             }
             return used;
+        }
+
+        private static int takeFrom(int others, int used, int[] domains) {
+            int changed = 0;
+            for (int x = 0; x < MOST_VARIABLES; x++) {
+                if (hasBit(others, x)) {
+                    changed |= keepOnly(domains, x, domains[x] & ~used);
+                }
+            }
+            return changed;
         }
     }
 }

@@ -425,10 +425,28 @@ public final class PromisesTest {
         dueDomains("three UNEQUAL, each by itself", local, 3, 3, 3);
         due("solutions() of them", local.solutions(), 0);
         due("told(3)", local.told(3), 0);
+        longPruning();
         for (int x : new int[] {3, -1, 6, Integer.MIN_VALUE, Integer.MAX_VALUE}) {
             dueThrow("domain(" + x + ")", desk, INDEX, d -> d.domain(x));
         }
         dueThrow("domain(3) when it has FAILED", failedDesk(), INDEX, d -> d.domain(3));
+    }
+
+    /** Each value that goes out of one domain lets only one more go out of the next one, 42 in all. */
+    private static void longPruning() {
+        DomainDesk desk = deskWith(255, 255, 255, 255, 255, 255);
+        for (int x = 4; x >= 0; x--) {
+            for (int v = 0; v < 8; v++) {
+                desk.pair(v, v);
+            }
+            desk.table(x, x + 1);
+        }
+        for (int v = 0; v < 7; v++) {
+            desk.pair(v, v + 1);
+        }
+        desk.pair(7, 7);
+        desk.table(5, 0);
+        dueDomains("a long pruning", desk, 128, 128, 128, 128, 128, 128);
     }
 
     private static void isImplied() {
