@@ -8,8 +8,10 @@ import java.util.Random;
  * document's definitions alone: every assignment is gone through, nothing is kept or shortened.
  */
 public final class ReferenceTest {
-    private static final int RUNS = 1500;
-    private static final int CALLS = 60;
+    private static final int RUNS = 4000;
+    private static final int STEPS = 60;
+    /** What a desk answers after so many calls is free. */
+    private static final int MOST_CALLS = 512;
     private static final int MOST_PRINTED = 20;
 
     private static int wrong = 0;
@@ -320,6 +322,9 @@ public final class ReferenceTest {
     }
 
     private static void compare(List<String> run, String name, Call got, Call want) {
+        if (run.size() == MOST_CALLS) {
+            return;
+        }
         String g = answerOf(got);
         String w = answerOf(want);
         run.add(name + " = " + w);
@@ -355,6 +360,15 @@ public final class ReferenceTest {
         return some(25) == 0 ? some(3) * count - 1 + some(2) : count == 0 ? 0 : some(count);
     }
 
+    /** Mostly none of the two, as a constraint's variables must not be the same. */
+    private int indexBeside(int a, int b) {
+        int x = index(reference.count());
+        for (int n = 0; n < 5 && (x == a || x == b); n++) {
+            x = index(reference.count());
+        }
+        return x;
+    }
+
     private int someDomain() {
         if (some(30) == 0) {
             return some(3) * 128 * (some(2) * 2 - 1);
@@ -369,8 +383,8 @@ public final class ReferenceTest {
 
     private void addConstraint() {
         int x = index(reference.count());
-        int y = index(reference.count());
-        int z = index(reference.count());
+        int y = indexBeside(x, x);
+        int z = indexBeside(x, y);
         int kind = index(3);
         switch (some(4)) {
             case 0: {
@@ -418,14 +432,24 @@ public final class ReferenceTest {
                 () -> number(desk.guess(x, v, is)), () -> number(reference.guess(x, v, is)));
     }
 
+    /** Everything now and then, and else the domains alone, so that the calls last for many steps. */
     private void ask() {
+        for (int x = 0; x < reference.count(); x++) {
+            int w = x;
+            compare(run, "domain(" + w + ")", () -> desk.domain(w), () -> reference.domain(w));
+        }
+        if (some(6) == 0) {
+            askMore();
+        }
+    }
+
+    private void askMore() {
+        int count = reference.count();
+        compare(run, "domain(-1)", () -> desk.domain(-1), () -> reference.domain(-1));
+        compare(run, "domain(" + count + ")", () -> desk.domain(count), () -> reference.domain(count));
         for (int what = -1; what <= 6; what++) {
             int w = what;
             compare(run, "told(" + w + ")", () -> desk.told(w), () -> reference.told(w));
-        }
-        for (int x = -1; x <= reference.count(); x++) {
-            int w = x;
-            compare(run, "domain(" + w + ")", () -> desk.domain(w), () -> reference.domain(w));
         }
         for (int n = -1; n <= reference.limits.size(); n++) {
             int w = n;
@@ -465,7 +489,7 @@ public final class ReferenceTest {
     private void go() {
         askSolutions();
         build();
-        for (int n = 0; n < CALLS; n++) {
+        for (int n = 0; n < STEPS; n++) {
             int choice = some(20);
             if (choice == 0) {
                 addVariable();
@@ -475,7 +499,7 @@ public final class ReferenceTest {
                 search();
             }
             ask();
-            if (some(4) == 0) {
+            if (some(8) == 0) {
                 askSolutions();
             }
         }
